@@ -6,6 +6,7 @@ public final class SpeechKeeper {
     public static final int NONE = -1;
 
     private static final int MAX_BYTES = 700;
+    private static final int APPENDED_BYTES = 20;
     private static final int MAX_LINES = 20;
     private static final int MAX_WORDS = 8;
     private static final int MAX_LETTERS = 8;
@@ -88,7 +89,7 @@ public final class SpeechKeeper {
     // ---- texts
 
     public int append(int a, int b, int c, int d, int e) {
-        if (!reader.hasRoom(20)) {
+        if (!reader.hasRoom(APPENDED_BYTES)) {
             return NONE;
         }
         reader.addFour(a);

@@ -12,7 +12,8 @@ import java.util.Map;
 public final class ModelRunsTest {
     private static final String[] WORDS = {"a", "b", "c", "dd", "one", "two", "base", "eighteen"};
     private static final String[] NOISE = {";", "/", " ", "\n", "A", "1", "ninechars", "one", "two", "base",
-        "a", "b", "-", "\u0000", "\u00ff", "`", "{"};
+        "a", "b", "-", "\u0000", "\u00ff", "`", "{", " a b c d e f g h ", "a/b/c/d/e/f/g/h/i/j"};
+    private static final int[] FAR = {Integer.MIN_VALUE, Integer.MAX_VALUE, Integer.MIN_VALUE + 1, 1 << 30, -65536};
     private static final Map<String, Method> OF_KEEPER = methods(SpeechKeeper.class);
     private static final Map<String, Method> OF_MODEL = methods(Model.class);
 
@@ -22,12 +23,14 @@ public final class ModelRunsTest {
     private long seed;
     private int words;
     private int wordsOfLine;
+    private int changes;
     private boolean isRight = true;
 
     private ModelRunsTest(int run) {
         seed = run * 7919L + 17;
         words = 1 + below(WORDS.length);
         wordsOfLine = 1 + below(below(3) == 0 ? 8 : 3);
+        changes = below(25);
     }
 
     private static Map<String, Method> methods(Class<?> of) {
@@ -168,7 +171,7 @@ public final class ModelRunsTest {
 
     private List<List<String>> changed(List<List<String>> base) {
         List<List<String>> draft = new ArrayList<>(base);
-        for (int count = below(10); count > 0; count--) {
+        for (int count = below(2 + changes); count > 0; count--) {
             int at = below(draft.size() + 1);
             int kind = below(4);
             if (kind == 0 || draft.isEmpty() || at == draft.size()) {
@@ -210,6 +213,9 @@ public final class ModelRunsTest {
 
 
     private int number(int most) {
+        if (below(100) == 0) {
+            return FAR[below(FAR.length)];
+        }
         return below(20) == 0 ? below(most + 30) - 15 : below(most + 1);
     }
 

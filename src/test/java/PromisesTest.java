@@ -475,6 +475,10 @@ public final class PromisesTest {
         due(3, keeper.common(3, 0, 0, 0));
         due(3, keeper.common(3, -1, 3, -1));
         due(1, keeper.common(3, -1, 1, -1));
+        // one line alone, without those behind it
+        SpeechKeeper split = Checks.of("base a/b;one a b;");
+        due(1, split.common(0, 0, 1, 0));
+        due(1, split.common(1, 0, 0, 0));
         refuses(ILLEGAL, () -> keeper.common(4, 0, 0, 0));
         refuses(ILLEGAL, () -> keeper.common(-1, 9, 0, 9));
         refuses(ILLEGAL, () -> keeper.common(0, 0, 4, 0));
@@ -785,6 +789,10 @@ public final class PromisesTest {
             + ";");
         due(-1, full.takeBack(0, 0));
         due(0, full.size(11));
+        SpeechKeeper room = Checks.of("base " + Checks.lines(10) + ";one b/c/d/e/f/g/h/i/j/" + Checks.lines(10, 'p')
+            + ";");
+        due(1, room.takeBack(0, 0));
+        due(20, room.size(1));
         due(1, full.takeBack(0, 1));
         due(0, full.takeBack(0, 0));
     }
@@ -1055,6 +1063,7 @@ public final class PromisesTest {
         due(12, keeper.report(1));
         Checks.type(keeper, "x");
         for (int times = 0; times < 2; times++) {
+            due(true, before != keeper.checksum());
             due(1, keeper.restoreSnapshot(0));
             due(before, keeper.checksum());
             due("0/1/2/2/0/0/3", Checks.authors(keeper, false));
