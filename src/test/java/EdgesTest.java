@@ -266,8 +266,14 @@ public final class EdgesTest {
         refuses(EMPTY, () -> keeper.restoreSnapshot(1));
         due(false, keeper.saveSnapshot(0));
         due(false, keeper.saveSnapshot(1));
+        due("a/b", Checks.text(keeper, 3));
+        due(3, keeper.parse(Checks.type(keeper, "base c/d/e;one c/e;two c/d/e/f;")));
+        due("c/e/f", Checks.text(keeper, 3));
+        due("0 1 2 0 1 0 1", Checks.block(keeper, 0));
+        due("1 3 3 0 1 0 1", Checks.block(keeper, 1));
         due(0, keeper.parse(Checks.type(keeper, "base;")));
-        due("0 0 0", keeper.size(0) + " " + keeper.size(1) + " " + keeper.size(2));
+        due("0 0 0 0 0", keeper.size(0) + " " + keeper.size(1) + " " + keeper.size(2) + " " + keeper.size(3) + " "
+            + keeper.size(7));
     }
 
     private static void parseEmpties() {
@@ -671,11 +677,23 @@ public final class EdgesTest {
         due(false, Checks.of("base a/b/c;one x/b/y;two p/b/q;").wouldClash(0, 1));
         due(false, Checks.of("base a/b;one a/b;two a;").wouldClash(0, 1));
         due(true, Checks.of("base a/b/c;two a/x/c;").wouldClash(0, 1));
+        due(false, Checks.of("base a/b/c;two a/x/c;").wouldClash(0, 2));
+        due(true, Checks.of("base a/b/c;one a/x/c;").wouldClash(1, 1));
+        due(false, Checks.of("base a/b/c;one a/x/c;").wouldClash(1, 2));
+        // the draft as it is now, not as it was told or as it was asked before
+        SpeechKeeper changed = Checks.of("base a/b/c;two a/x/c;");
+        due(4, changed.insert(0, 0, Checks.type(changed, "n")));
+        due("false false true false", changed.wouldClash(0, 0) + " " + changed.wouldClash(0, 1) + " "
+            + changed.wouldClash(0, 2) + " " + changed.wouldClash(0, 3));
+        due(-3, changed.parse(0));
+        due(true, changed.wouldClash(0, 2));
     }
 
     private static void fewestBack() {
         of(17, "the fewest changes of both writers without which no two of the changes that are left would meet");
         due(0, Checks.of("base a/b;one a/x;").fewestBack());
+        due(0, Checks.of("base a;one x/a;").fewestBack());
+        due(0, Checks.of("base a;two x/a;").fewestBack());
         due(1, Checks.of("base a/b;one a/x;two a/y;").fewestBack());
         due(0, Checks.of("base a/b;one a/x;two y/b;").fewestBack());
         // a chain of 2, 3, 4 and 5 changes that meet one after the other
@@ -750,6 +768,13 @@ public final class EdgesTest {
         String rest = Checks.lines(17, 'b');
         due(17 + 3 + 7, Checks.of("base a/" + rest + "/z;one x x/" + rest + "/y y y;two p p p/" + rest + "/q q q q;")
             .mostWords());
+        // two clashes side by side, with no line beside them: both sides of the latter leave no line for the former
+        SpeechKeeper beside = Checks.of("base a/b/c/d/e/f;one x/d/" + Checks.lines(9, 'g') + ";two y/c/"
+            + Checks.lines(10, 'p') + ";");
+        due("3 0 3 1 2 0 2", Checks.block(beside, 0));
+        due("3 3 6 10 10 0 2", Checks.block(beside, 1));
+        due(3 + 10, beside.mostWords());
+        due(1 + 3, beside.fewestWords());
     }
 
     // ---- changes
@@ -898,6 +923,11 @@ public final class EdgesTest {
         due("a", Checks.word(full, 1, 19, 0));
         due(0, full.move(0, 19, 0));
         due(20, full.size(1));
+        // a line that was told before is not the line that is moved
+        SpeechKeeper told = Checks.of("base a/b/c;");
+        due(1, told.replace(0, 0, Checks.type(told, "n n")));
+        due(2, told.move(0, 1, 2));
+        due("n n/c/b", Checks.text(told, 1));
         due(0, Checks.of("base a;").move(0, 0, 0));
     }
 
@@ -937,6 +967,9 @@ public final class EdgesTest {
         due("b", Checks.word(full, 1, 0, 0));
         due(1, full.takeBack(0, 1));
         due("b", Checks.text(full, 1));
+        // behind lines that stay
+        due(-1, Checks.of("base a/b/c;one a/c/" + Checks.lines(18, 'd') + ";").takeBack(0, 0));
+        due(1, Checks.of("base a/b/c;one a/c/" + Checks.lines(17, 'd') + ";").takeBack(0, 0));
         // as many lines go as come
         SpeechKeeper same = Checks.of("base a/b;one x/b/" + Checks.lines(18, 'c') + ";");
         due(1, same.takeBack(0, 0));
@@ -1258,11 +1291,15 @@ public final class EdgesTest {
             due(1, keeper.size(4));
             due("0/1", Checks.authors(keeper, false));
             due(1, keeper.delete(0, 0));
+            due("b", Checks.text(keeper, 3));
             due(1, keeper.join());
             due(1, keeper.undo());
+            due(1, keeper.size(7));
             due(3, keeper.restoreSnapshot(1));
             due(3, keeper.size(4));
             due("a/b", Checks.text(keeper, 0));
+            due("a/b", Checks.text(keeper, 3));
+            due(0, keeper.size(7));
         }
         due(true, keeper.saveSnapshot(0));
         due(true, keeper.saveSnapshot(1));

@@ -45,6 +45,7 @@ public final class TermsTest {
         kinds();
         decisions();
         jointOfManyLines();
+        largestJoint();
         largestText();
         openedAgain();
         keptDecisions();
@@ -65,6 +66,7 @@ public final class TermsTest {
         thrownCalls();
         firstOfSeveral();
         textNumbers();
+        toldAnew();
         manyCalls();
         CHECKS.end("TermsTest");
     }
@@ -184,6 +186,13 @@ public final class TermsTest {
         due("0 0 0 1 0", Checks.change(less, 0, 0));
         due("2 3 3 3 1", Checks.change(less, 0, 1));
         due("100", Checks.authors(Checks.of("base a b x;one x a b;"), true));
+        // a row has each thing only once: one a of the draft is not a pair with all three of the BASE
+        SpeechKeeper once = Checks.of("base p/c/a/a/a;one a/p/c;");
+        due("0 0 0 1 0", Checks.change(once, 0, 0));
+        due("2 5 3 3 1", Checks.change(once, 0, 1));
+        SpeechKeeper twice = Checks.of("base a/p/c;one p/c/a/a/a;");
+        due("0 1 0 0 0", Checks.change(twice, 0, 0));
+        due("3 3 2 5 1", Checks.change(twice, 0, 1));
         // both have rows of two that are longest; a is gone, and then b a are pairs
         SpeechKeeper turned = Checks.of("base a/b/a;one b/a/b;");
         due("0 1 0 0 0", Checks.change(turned, 0, 0));
@@ -493,6 +502,29 @@ public final class TermsTest {
         return line.toString();
     }
 
+    /** 39 lines of 8 words of 8 letters. */
+    private static void largestJoint() {
+        SpeechKeeper keeper = new SpeechKeeper();
+        due(1, keeper.insert(0, 0, Checks.type(keeper, lineOf(8 * 19))));
+        due(1, keeper.join());
+        for (int line = 0; line < 19; line++) {
+            due(2 + line, keeper.insert(0, line, Checks.type(keeper, lineOf(8 * line))));
+            due(2 + line, keeper.insert(1, line + 1, Checks.type(keeper, lineOf(8 * (20 + line)))));
+        }
+        due(39, keeper.size(3));
+        due("8 64", keeper.line(3, 38, 0) + " " + keeper.line(3, 38, 1));
+        due(wordOf(8 * 39 - 1), Checks.word(keeper, 3, 38, 7));
+        due("1 2", keeper.author(true, 19, 0) + " " + keeper.author(true, 38, 7));
+        due(160.0f / 312.0f, keeper.share(1));
+        due(152.0f / 312.0f, keeper.share(2));
+        due(8.0, keeper.meanWords(3));
+        due(312, keeper.fewestWords());
+        due(312 * 10, keeper.report(3));
+        due("x2\n-1", "" + (char) keeper.reportByte(3117) + (char) keeper.reportByte(3118)
+            + (char) keeper.reportByte(3119) + keeper.reportByte(3120));
+        due(160 * 9, keeper.report(1));
+    }
+
     /** All texts as large as can be: 20 lines of 8 words of 8 letters. */
     private static void largestText() {
         of("all words of the lines of the BASE of the block, as one row, and all words of the side, as one row");
@@ -727,6 +759,7 @@ public final class TermsTest {
         due("9 1", Checks.error("base;two;two;"));
         due("13 1", Checks.error("base;one;two;one;"));
         due("5 1", Checks.error("base;;"));
+        keywords();
         of("lines = [ line { \"/\" line } ], line = WORD { WORD }");
         due("5 1", Checks.error("base /;"));
         due("6 1", Checks.error("base a"));
@@ -742,6 +775,25 @@ public final class TermsTest {
         due("q", Checks.text(Checks.of("base q;two r;"), 1));
         due("q", Checks.text(Checks.of("base q;one r;"), 2));
         due("", Checks.text(Checks.of("base q;one;"), 1));
+    }
+
+    /** Each letter of the three counts, and their number. */
+    private static void keywords() {
+        String[] before = {"", "base;", "base;one;"};
+        String[] words = {"base", "one", "two"};
+        for (int word = 0; word < 3; word++) {
+            String error = before[word].length() + " 1";
+            due("no error", Checks.error(before[word] + words[word] + ";"));
+            for (int place = 0; place < words[word].length(); place++) {
+                StringBuilder wrong = new StringBuilder(before[word] + words[word] + ";");
+                wrong.setCharAt(before[word].length() + place, 'x');
+                due(error, Checks.error(wrong.toString()));
+                wrong.deleteCharAt(before[word].length() + place);
+                due(error, Checks.error(wrong.toString()));
+            }
+            due(error, Checks.error(before[word] + words[word] + "s;"));
+            due(error, Checks.error(before[word] + "s" + words[word] + ";"));
+        }
     }
 
     private static void earlyEnds() {
@@ -1000,6 +1052,51 @@ public final class TermsTest {
         due("a/b/b", Checks.text(keeper, 1));
         due("c c c/c/c/a", Checks.text(keeper, 2));
         due("c c c/c/c/a/b/b", Checks.text(keeper, 3));
+    }
+
+    /** A new keeper with the same three texts tells the same changes, blocks and JOINT text. */
+    private static void toldAnew() {
+        of("Each change is seen in all that follows from the texts");
+        for (int call = 0; call < 12; call++) {
+            SpeechKeeper keeper = Checks.of("base a/b/c/d;one a/x/c/d;two a/y/c/d/e;");
+            for (int before = 0; before <= call; before++) {
+                due(true, keeper.size(3) >= 4);
+                changeBy(keeper, before);
+            }
+            SpeechKeeper fresh = Checks.of("base " + Checks.text(keeper, 0) + ";one " + Checks.text(keeper, 1) + ";two "
+                + Checks.text(keeper, 2) + ";");
+            due(call + " " + followed(fresh), call + " " + followed(keeper));
+        }
+    }
+
+    private static void changeBy(SpeechKeeper keeper, int call) {
+        switch (call) {
+            case 0 -> due(5, keeper.insert(0, 2, Checks.type(keeper, "n")));
+            case 1 -> due(1, keeper.replace(1, 3, Checks.type(keeper, "m k")));
+            case 2 -> due(4, keeper.delete(1, 2));
+            case 3 -> due(4, keeper.deleteWord(1, 2, 0));
+            case 4 -> due(2, keeper.move(1, 0, 2));
+            case 5 -> due(false, keeper.saveSnapshot(0));
+            case 6 -> due(0, keeper.takeBack(0, 0));
+            case 7 -> due(5, keeper.undo());
+            case 8 -> due(2, keeper.discard(1));
+            case 9 -> due(0, keeper.restoreSnapshot(0));
+            case 10 -> due(1, keeper.adopt(1));
+            default -> due(5, keeper.join());
+        }
+    }
+
+    private static String followed(SpeechKeeper keeper) {
+        StringBuilder all = new StringBuilder(Checks.text(keeper, 3));
+        for (int writer = 0; writer < 2; writer++) {
+            for (int change = 0; change < keeper.size(5 + writer); change++) {
+                all.append(", ").append(Checks.change(keeper, writer, change));
+            }
+        }
+        for (int block = 0; block < keeper.size(7); block++) {
+            all.append("; ").append(Checks.block(keeper, block));
+        }
+        return all.append(' ').append(keeper.mostWords()).toString();
     }
 
     private static void manyCalls() {
