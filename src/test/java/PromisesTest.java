@@ -84,7 +84,7 @@ public final class PromisesTest {
     private static void append() {
         CHECKS.begin("promise 2");
         SpeechKeeper keeper = new SpeechKeeper();
-        // "base" "z;on" "e ab" "c;tw" "o \n;"
+        // "base", " z;o", "ne a", "bc;t", "wo \n", ";   "
         due(20, keeper.append(0x62617365, 0x207a3b6f, 0x6e652061, 0x62633b74, 0x776f200a));
         due(40, keeper.append(0x3b202020, 0x20202020, 0x20202020, 0x20202020, 0x20202020));
         due(1, keeper.parse(21));
