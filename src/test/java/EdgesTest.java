@@ -103,6 +103,7 @@ public final class EdgesTest {
         replace();
         delete();
         deleteWord();
+        deleteWordOfFullText();
         deleteLastWord();
         move();
         takeBackRange();
@@ -879,6 +880,19 @@ public final class EdgesTest {
             List<String> words = new ArrayList<>(List.of(EIGHT_WORDS.split(" ")));
             words.remove(word);
             due("k/" + String.join(" ", words) + "/m", Checks.text(keeper, 2));
+        }
+    }
+
+    private static void deleteWordOfFullText() {
+        of(23, "Deletes a word of a line of a draft, also of the 20th line with 8 words");
+        String others = "a/".repeat(19);
+        for (int word = 0; word < 8; word++) {
+            SpeechKeeper keeper = Checks.of("base " + others + EIGHT_WORDS + ";");
+            due(20, keeper.deleteWord(0, 19, word));
+            List<String> words = new ArrayList<>(List.of(EIGHT_WORDS.split(" ")));
+            words.remove(word);
+            due(others + String.join(" ", words), Checks.text(keeper, 1));
+            due(others + EIGHT_WORDS, Checks.text(keeper, 2));
         }
     }
 
